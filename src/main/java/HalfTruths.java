@@ -482,11 +482,13 @@ public final class HalfTruths {
 
     /** A pair has two figures, none of them 0: the size of the row tells how many there are. */
     private static int pairsIn(int row) {
-        int pairs = 0;
-        for (int rest = row; rest > 0; rest /= 100) {
-            pairs++;
+        if (row == 0) {
+            return 0;
         }
-        return pairs;
+        if (row < 100) {
+            return 1;
+        }
+        return row < 10000 ? 2 : 3;
     }
 
     /** In how many orders just these are ahead of one that is not among them. */
@@ -901,7 +903,7 @@ public final class HalfTruths {
         // ---- acts upon it
 
         boolean canSee(int person, int matter) {
-            return isPerson(person) && isMatter(matter) && (witnessesOf(matter) >> person & 1) == 0;
+            return isPerson(person) && isMatter(matter) && (witnesses[matter] >> person & 1) == 0;
         }
 
         void letSee(int person, int matter) {

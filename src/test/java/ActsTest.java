@@ -10,7 +10,9 @@ public final class ActsTest {
         dropping();
         undoing();
         undoingAll();
+        undoingOneSight();
         rowOfFourteen();
+        lastOfFifteen();
         DUE.end();
     }
 
@@ -132,6 +134,15 @@ public final class ActsTest {
         DUE.is("Promise 13: none", x.undo(), HalfTruths.STATE);
     }
 
+    private static void undoingOneSight() {
+        HalfTruths x = Due.court("OP02P02P02P02P02P02M45M67S00S20S30S40S50S51");
+        x.show(1, 0);
+        DUE.is("Promise 9: all saw it", x.matter(0, 3), 63);
+        x.undo();
+        DUE.is("Promise 13: just one did not", x.matter(0, 3), 61);
+        DUE.is("Promise 13: of just that", x.matter(1, 3), 32);
+    }
+
     private static void undoingAll() {
         HalfTruths x = Due.court("OP00P10M45S00S10");
         x.seed(3);
@@ -140,9 +151,34 @@ public final class ActsTest {
         x.years(2);
         x.hear(0, 0, 5);
         x.undo();
+        DUE.is("Promise 13: nothing else is", x.undo(), HalfTruths.STATE);
         DUE.is("Promise 13: eye is back", x.person(0, 0), 0);
         DUE.is("Promise 13: heard is no act", x.count(8), 2);
         DUE.is("Promise 13: fine is back", x.count(6), 0);
+    }
+
+    /** The fifteenth act and the one ahead of it are of two kinds. */
+    private static void lastOfFifteen() {
+        HalfTruths x = Due.court("OP00P10P00M45M67S00S10S20");
+        for (int k = 0; k < 12; k++) {
+            x.drop(2);
+        }
+        x.swear(0, 1, 0);
+        x.show(0, 1);
+        x.show(1, 1);
+        x.show(2, 1);
+        DUE.is("Promise 13: the last one", x.undo(), 13);
+        DUE.is("Promise 13: it did not see it", x.person(2, 2), 1);
+        DUE.is("Promise 13: others saw it", x.person(0, 2), 3);
+        DUE.is("Promise 13: others saw it", x.person(1, 2), 3);
+        DUE.is("Promise 13: the one ahead", x.undo(), 12);
+        DUE.is("Promise 13: it did not see it", x.person(1, 2), 1);
+        x.show(2, 1);
+        x.undo();
+        x.undo();
+        DUE.is("Promise 13: known", x.matter(0, 2), 45);
+        DUE.is("Promise 13: ten are left", x.undo(), 10);
+        DUE.is("Promise 13: not known", x.matter(0, 2), HalfTruths.NONE);
     }
 
     private static void rowOfFourteen() {

@@ -60,6 +60,10 @@ public final class SlotsTest {
         DUE.is("Promise 27: kept", x.keep(1), 0);
         DUE.is("Promise 28: STATE, the other", x.again(0), HalfTruths.STATE);
         DUE.same("Promise 28: refused", before, Due.picture(x));
+        HalfTruths z = Due.court("OP00P10M45S00S10");
+        z.keep(0);
+        DUE.is("Promise 28: STATE, the second", z.again(1), HalfTruths.STATE);
+        DUE.is("Promise 28: the first", z.again(0), 0);
         HalfTruths y = new HalfTruths();
         DUE.is("Promise 27: nobody", y.keep(1), 0);
         DUE.is("Promise 28: nobody", y.again(1), 0);
@@ -86,6 +90,11 @@ public final class SlotsTest {
         x.drop(2);
         DUE.is("Promise 29: can't be known", x.count(3), 0);
         DUE.is("Promise 29: known still", x.count(4), 5);
+        HalfTruths all = Due.court("OP00P10M00M11M22M33S00S10S01S11S02S12S03S13");
+        for (int m = 0; m < 4; m++) {
+            all.swear(0, 1, m);
+            DUE.is("Promise 29: known as they are", all.count(5), (2 << m) - 1);
+        }
         DUE.is("Promise 29: OUTSIDE", x.count(9), HalfTruths.OUTSIDE);
         DUE.is("Promise 29: OUTSIDE", x.count(-1), HalfTruths.OUTSIDE);
         DUE.is("Promise 29: OUTSIDE", x.count(Integer.MIN_VALUE), HalfTruths.OUTSIDE);

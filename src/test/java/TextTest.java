@@ -10,6 +10,7 @@ public final class TextTest {
         faultsOfSightings();
         courts();
         courtForgets();
+        courtIsNew();
         people();
         matters();
         sayings();
@@ -170,6 +171,20 @@ public final class TextTest {
         DUE.is("Promise 5: eye as told", x.person(0, 0), 0);
         DUE.is("Promise 5: heard stays", x.count(8), 1);
         DUE.is("Promise 5: seed stays", x.seed(0), 77);
+    }
+
+    /** Nothing of an earlier reading, nor of what was only tried, is in a new court. */
+    private static void courtIsNew() {
+        HalfTruths x = Due.court("OP11P12P13P00M45S00S10S20S30");
+        DUE.is("Promise 18: all can be", x.judge(3, 301301300), HalfTruths.NONE);
+        DUE.is("Promise 5: anew", Due.anew(x, "OP00P00P00P00M67"), 41);
+        for (int p = 0; p < 4; p++) {
+            for (int what = 0; what < 4; what++) {
+                DUE.is("Promise 5: new person " + p + " " + what, x.person(p, what), 0);
+            }
+        }
+        DUE.is("Promise 5: new matter", x.matter(0, 2), HalfTruths.NONE);
+        DUE.is("Promise 5: nobody fined", x.count(6), 0);
     }
 
     private static void people() {
