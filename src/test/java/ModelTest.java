@@ -141,8 +141,8 @@ public final class ModelTest {
                 return same("hear " + m + half + v, x.hear(m, half, v), y.hear(m, half, v));
             default:
                 int letter = below(2) == 0 ? some(256) : "OPMS0123".charAt(below(8));
-                return below(4) == 0 && same("unhear", x.unhear(), y.unhear())
-                        || same("write " + letter, x.write(letter), y.write(letter));
+                return below(4) == 0 ? same("unhear", x.unhear(), y.unhear())
+                        : same("write " + letter, x.write(letter), y.write(letter));
         }
     }
 
@@ -201,8 +201,8 @@ public final class ModelTest {
             default:
                 long v = (long) below(Integer.MAX_VALUE) * below(Integer.MAX_VALUE) - below(1000);
                 int years = 1 + some(30);
-                return below(4) == 0 && same("seed " + v, x.seed(v), y.seed(v))
-                        || same("years " + years, x.years(years), y.years(years));
+                return below(4) == 0 ? same("seed " + v, x.seed(v), y.seed(v))
+                        : same("years " + years, x.years(years), y.years(years));
         }
     }
 
