@@ -111,26 +111,26 @@ public final class ActsTest {
     private static void undoing() {
         HalfTruths x = Due.court("OP00P11P02M45S00S10");
         DUE.is("Promise 13: none", x.undo(), HalfTruths.STATE);
-        String begun = Due.picture(x);
+        String begun = Due.shortPicture(x);
         x.show(2, 0);
-        String shown = Due.picture(x);
+        String shown = Due.shortPicture(x);
         x.swear(2, 1, 0);
-        String sworn = Due.picture(x);
+        String sworn = Due.shortPicture(x);
         x.deny(0);
-        String denied = Due.picture(x);
+        String denied = Due.shortPicture(x);
         x.drop(2);
-        String child = Due.picture(x);
+        String child = Due.shortPicture(x);
         x.drop(1);
         DUE.is("Promise 13: a liar's drop", x.undo(), 4);
-        DUE.same("Promise 13: a liar's drop", child, Due.picture(x));
+        DUE.same("Promise 13: a liar's drop", child, Due.shortPicture(x));
         DUE.is("Promise 13: a child's drop", x.undo(), 3);
-        DUE.same("Promise 13: a child's drop", denied, Due.picture(x));
+        DUE.same("Promise 13: a child's drop", denied, Due.shortPicture(x));
         DUE.is("Promise 13: a denial", x.undo(), 2);
-        DUE.same("Promise 13: a denial", sworn, Due.picture(x));
+        DUE.same("Promise 13: a denial", sworn, Due.shortPicture(x));
         DUE.is("Promise 13: an oath", x.undo(), 1);
-        DUE.same("Promise 13: an oath", shown, Due.picture(x));
+        DUE.same("Promise 13: an oath", shown, Due.shortPicture(x));
         DUE.is("Promise 13: a sight", x.undo(), 0);
-        DUE.same("Promise 13: a sight", begun, Due.picture(x));
+        DUE.same("Promise 13: a sight", begun, Due.shortPicture(x));
         DUE.is("Promise 13: none", x.undo(), HalfTruths.STATE);
     }
 

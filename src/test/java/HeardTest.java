@@ -11,8 +11,7 @@ public final class HeardTest {
     }
 
     private static void hearing() {
-        HalfTruths x = Due.court("M");
-        x = Due.court("OM45M18");
+        HalfTruths x = Due.court("OM45M18");
         for (int k = 1; k <= 6; k++) {
             DUE.is("Promise 19: how many", x.hear(k % 2, k % 2, 9), k);
         }

@@ -1,6 +1,7 @@
 /** Runs of calls by fixed seeds: each answer of HalfTruths against that of Model. */
 public final class ModelTest {
     private static final int RUNS = 1500;
+    private static final int MOST_CALLS = 512;
     private static final int[] ODD = {-1, -2, 31, 100, -9, 64, Integer.MAX_VALUE, Integer.MIN_VALUE};
 
     private final Due due = new Due();
@@ -81,9 +82,11 @@ public final class ModelTest {
 
     private boolean goes() {
         int calls = 0;
-        while (calls < 500) {
+        // A turn makes 52 calls at most: one that wipes, writes 48 letters, makes the court, and one more.
+        while (calls <= MOST_CALLS - 52) {
             if (below(60) == 0 || calls == 0) {
                 String text = courtText();
+                calls += 3;
                 if (!same("wipe", x.wipe(), y.wipe())) {
                     return false;
                 }
