@@ -408,17 +408,18 @@ public final class EdgesChancesTest {
                 + "MATTER that is left by 4 is SHOWN, if it can be; 24 to 29: PERSON 0 to 5 drops its glass, if it can");
         boolean high = false;
         boolean[] seen = new boolean[30];
-        for (int k = 0; k < 300; k++) {
+        for (int k = 0; k < 200; k++) {
             long seed = k * 0x9e3779b97f4a7c15L;
             BigInteger upper = step(BigInteger.valueOf(seed)).shiftRight(33);
             high |= upper.bitLength() == 31;
             int left = upper.mod(BigInteger.valueOf(30)).intValue();
             seen[left] = true;
-            for (int p = 0; p < 6; p++) {
+            for (int all = 0; all < 24; all++) {
+                int p = all / 4;
                 int other = (p + 1) % 6;
                 boolean apart = left != 24 + p && left != 24 + other;
-                DUE.is("seed " + seed + " to " + p, yearOf(seed, p, other, false), left == 4 * p + 2 ? 1 : 0);
-                DUE.is("seed " + seed + " by " + p, yearOf(seed, p, other, true), apart ? 1 : 0);
+                DUE.is("seed " + seed + " to " + all, yearOf(seed, p, all % 4, false), left == all ? 1 : 0);
+                DUE.is("seed " + seed + " by " + all, yearOf(seed, p, all % 4, true), apart ? 1 : 0);
             }
         }
         DUE.is("with a highest bit of 1", high ? 1 : 0, 1);
@@ -427,15 +428,16 @@ public final class EdgesChancesTest {
         }
     }
 
-    /** One year of a left one, that may have seen matter 2, a right one, that did, and saints. */
-    private static int yearOf(long seed, int leftOne, int rightOne, boolean saw) {
+    /** One year of a left one, that may have seen the matter, the next one, right, that did, and saints. */
+    private static int yearOf(long seed, int leftOne, int matter, boolean saw) {
+        int rightOne = (leftOne + 1) % 6;
         StringBuilder text = new StringBuilder("O");
         for (int p = 0; p < 6; p++) {
             text.append('P').append(p == rightOne ? 1 : 0).append(p == leftOne || p == rightOne ? 0 : 3);
         }
-        text.append("M00M00M00M00S").append(rightOne).append('2');
+        text.append("M00M00M00M00S").append(rightOne).append(matter);
         if (saw) {
-            text.append('S').append(leftOne).append('2');
+            text.append('S').append(leftOne).append(matter);
         }
         HalfTruths x = Due.court(text.toString());
         x.seed(seed);

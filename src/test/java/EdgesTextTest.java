@@ -24,6 +24,7 @@ public final class EdgesTextTest {
         courtOfAFault();
         tensAndOnes();
         madeAnew();
+        nothingOfEarlierOnes();
         whatStays();
         numberedAsTold();
         personWhats();
@@ -364,6 +365,33 @@ public final class EdgesTextTest {
         DUE.is("row", x.count(7), 0);
         DUE.is("none to undo", x.undo(), HalfTruths.STATE);
         DUE.is("kept ones", x.again(1), HalfTruths.STATE);
+    }
+
+    /** Whatever stood, was tried or could not be read ahead of it. */
+    private static void nothingOfEarlierOnes() {
+        DUE.sentence(5, "THE TEXT (that stays as it is) is THE COURT");
+        HalfTruths x = Due.court("OP10P11P12P13P10P11M99M88S00S10S20S51");
+        for (int p = 0; p < 3; p++) {
+            x.drop(p);
+        }
+        x.drop(4);
+        DUE.is("all three can be", x.judge(3, 300301304), HalfTruths.NONE);
+        x.years(30);
+        DUE.is("a fault", Due.anew(x, "OP13P12P11P10M77S00X"), HalfTruths.STATE);
+        DUE.is("one that can be", Due.anew(x, "OP00P01P02P03P00P02M10M20"), 62);
+        int[] kinds = {0, 1, 2, 3, 0, 2};
+        for (int p = 0; p < 6; p++) {
+            DUE.is("eye " + p, x.person(p, 0), 0);
+            DUE.is("kind " + p, x.person(p, 1), kinds[p]);
+            DUE.is("saw " + p, x.person(p, 2), 0);
+            DUE.is("fines " + p, x.person(p, 3), 0);
+        }
+        for (int m = 0; m < 2; m++) {
+            DUE.is("left " + m, x.matter(m, 0), m + 1);
+            DUE.is("right " + m, x.matter(m, 1), 0);
+            DUE.is("known " + m, x.matter(m, 2), HalfTruths.NONE);
+            DUE.is("seen " + m, x.matter(m, 3) + x.matter(m, 4), 0);
+        }
     }
 
     private static void whatStays() {
